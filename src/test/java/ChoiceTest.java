@@ -1,148 +1,136 @@
-/** Promises 9 to 11: the chosen set, its total, and which sets fit. */
+/** The sentences of promises 9 (chosen), 10 (total) and 11 (fits); which set is chosen is in TermsTest. */
 public final class ChoiceTest {
     private static final Checks CHECKS = new Checks();
 
     public static void main(String[] args) {
-        greatestTotalIsChosen();
-        twoLesserJobsGoBeforeOneGreater();
-        leastNumberPartsEqualTotals();
-        severalTiesAtOnce();
-        choiceFollowsFromThePresentAlone();
-        noRoomChoosesNothing();
-        roomForThreeTakesThree();
-        fitsAsksForWindowsAndRooms();
-        fitsRefusesNumbersNoJobHolds();
+        bitsTellTheChosenJobs();
+        totalAddsTheChosenWorths();
+        totalAtItsEdges();
+        fitsTellsOfEverySet();
+        fitsDoesNotAskForWorth();
+        fitsRefusesEveryBitOfNoJob();
+        fitsRefusesTheLeastAndTheGreatestInt();
         CHECKS.finish();
     }
 
-    private static void greatestTotalIsChosen() {
-        SlotMarket x = new SlotMarket(7, 1);
-        x.bring(6, 6, 4);
-        x.bring(6, 6, 9);
-        x.bring(6, 7, 3);
-        CHECKS.due("greatest: chosen()", x.chosen(), 0b110);
-        CHECKS.due("greatest: total()", x.total(), 12);
-        x.bring(7, 7, 20);
-        CHECKS.due("greatest, one more: chosen()", x.chosen(), 0b1010);
-        CHECKS.due("greatest, one more: total()", x.total(), 29);
+    private static void bitsTellTheChosenJobs() {
+        CHECKS.says("Promise 9", "The chosen set: bit i is set when job i is in it.");
+        for (int set = 0; set < 128; set++) {
+            SlotMarket x = new SlotMarket(7, 0);
+            for (int id = 0; id < 7; id++) {
+                x.bring(id, id, 1 + id);
+                x.setRoom(id, set >> id & 1);
+            }
+            CHECKS.due("room for " + Integer.toBinaryString(set) + ": chosen()", x.chosen(), set);
+        }
+        CHECKS.due("EMPTY: chosen()", Sample.EMPTY.make().chosen(), 0);
+        CHECKS.due("ROOMLESS: chosen()", Sample.ROOMLESS.make().chosen(), 0);
+        CHECKS.due("GAPPY: chosen()", Sample.GAPPY.make().chosen(), 0b0000101);
+        CHECKS.due("CROWDED: chosen()", Sample.CROWDED.make().chosen(), 0b1101101);
     }
 
-    private static void twoLesserJobsGoBeforeOneGreater() {
+    private static void totalAddsTheChosenWorths() {
+        CHECKS.says("Promise 10", "The total worth of the chosen set.");
+        for (int set = 0; set < 128; set++) {
+            SlotMarket x = new SlotMarket(7, 0);
+            int due = 0;
+            for (int id = 0; id < 7; id++) {
+                x.bring(id, id, 1 + 3 * id);
+                x.setRoom(id, set >> id & 1);
+                due += (set >> id & 1) * (1 + 3 * id);
+            }
+            CHECKS.due("room for " + Integer.toBinaryString(set) + ": total()", x.total(), due);
+        }
+        CHECKS.due("GAPPY: total()", Sample.GAPPY.make().total(), 8);
+        CHECKS.due("CROWDED: total()", Sample.CROWDED.make().total(), 55);
+    }
+
+    private static void totalAtItsEdges() {
+        CHECKS.says("Promise 10", "The total worth");
+        CHECKS.due("no jobs: total()", Sample.EMPTY.make().total(), 0);
+        CHECKS.due("no room: total()", Sample.ROOMLESS.make().total(), 0);
+        SlotMarket least = new SlotMarket(1, 1);
+        least.bring(0, 0, 1);
+        CHECKS.due("one job worth 1: total()", least.total(), 1);
+        SlotMarket most = new SlotMarket(7, 3);
+        for (int i = 0; i < 7; i++) {
+            most.bring(0, 2, 20);
+        }
+        CHECKS.due("seven jobs worth 20: total()", most.total(), 140);
+    }
+
+    private static void fitsTellsOfEverySet() {
+        CHECKS.says("Promise 11", "Whether the set of the jobs whose bits are set in set fits.");
+        // Slot 0 has room for 2, slot 1 for 1; 0, 1 and 2 go to slot 0, 3 and 4 to slot 1, 5 to either, 6 to none.
         SlotMarket x = new SlotMarket(7, 0);
-        x.setRoom(0, 1);
+        x.setRoom(0, 2);
         x.setRoom(1, 1);
-        x.bring(0, 1, 10);
-        x.bring(0, 0, 9);
-        x.bring(1, 1, 8);
-        CHECKS.due("pairs: chosen()", x.chosen(), 0b011);
-        x.revalue(0, 7);
-        CHECKS.due("pairs, 0 least: chosen()", x.chosen(), 0b110);
-        CHECKS.due("pairs, 0 least: total()", x.total(), 17);
+        x.bring(0, 0, 1);
+        x.bring(0, 0, 20);
+        x.bring(0, 0, 3);
+        x.bring(1, 1, 3);
+        x.bring(1, 1, 20);
+        x.bring(0, 1, 1);
+        x.bring(2, 11, 20);
+        for (int set = 0; set < 128; set++) {
+            int inZero = Integer.bitCount(set & 0b0000111);
+            int inOne = Integer.bitCount(set & 0b0011000);
+            int inEither = Integer.bitCount(set & 0b0100000);
+            boolean due = inZero <= 2 && inOne <= 1 && inZero + inOne + inEither <= 3 && set < 64;
+            CHECKS.due("fits(" + Integer.toBinaryString(set) + ")", x.fits(set), due);
+        }
     }
 
-    private static void leastNumberPartsEqualTotals() {
-        SlotMarket x = new SlotMarket(7, 0);
-        x.setRoom(5, 2);
+    private static void fitsDoesNotAskForWorth() {
+        CHECKS.says("Promise 11", "the set of the jobs whose bits are set in set");
+        SlotMarket x = Sample.GAPPY.make();
+        CHECKS.due("the chosen set: fits(00101)", x.fits(0b00101), true);
+        CHECKS.due("a set of the same worth: fits(10100)", x.fits(0b10100), true);
+        CHECKS.due("a job that is not chosen: fits(10000)", x.fits(0b10000), true);
+        CHECKS.due("two for one place: fits(10001)", x.fits(0b10001), false);
+    }
+
+    private static void fitsRefusesEveryBitOfNoJob() {
+        CHECKS.says("Promise 11", "False when a bit is set for a number that no job holds (bits 0 .. 31).");
+        for (int held = 0; held < 128; held++) {
+            SlotMarket x = new SlotMarket(7, 3);
+            for (int i = 0; i < 7; i++) {
+                x.bring(0, 11, 1);
+            }
+            for (int id = 0; id < 7; id++) {
+                if ((held >> id & 1) == 0) {
+                    x.take(id);
+                }
+            }
+            String run = "held " + Integer.toBinaryString(held);
+            CHECKS.due(run + ": fits(held)", x.fits(held), true);
+            for (int bit = 0; bit < 32; bit++) {
+                boolean due = (held >> bit & 1) == 1;
+                CHECKS.due(run + ": fits(1 << " + bit + ")", x.fits(1 << bit), due);
+                CHECKS.due(run + ": fits(held | 1 << " + bit + ")", x.fits(held | 1 << bit), due);
+            }
+        }
+    }
+
+    private static void fitsRefusesTheLeastAndTheGreatestInt() {
+        CHECKS.says("Promise 11", "(bits 0 .. 31)");
+        int[] far = {
+            Edges.LEAST_INT, Edges.LEAST_INT | 1, Edges.LEAST_INT | 127, Edges.MOST_INT, -1, -2, -127, -128,
+            128, 129, 255, 256, 257, 65536, 65537,
+        };
+        for (Sample sample : Sample.values()) {
+            SlotMarket x = sample.make();
+            for (int set : far) {
+                CHECKS.due(sample + ": fits(" + set + ")", x.fits(set), false);
+            }
+        }
+        SlotMarket all = new SlotMarket(7, 3);
         for (int i = 0; i < 7; i++) {
-            x.bring(5, 5, 6);
+            all.bring(0, 11, 1);
         }
-        CHECKS.due("all equal: chosen()", x.chosen(), 0b11);
-        x.take(0);
-        CHECKS.due("all equal, 0 gone: chosen()", x.chosen(), 0b110);
-        x.revalue(6, 7);
-        CHECKS.due("6 worth more: chosen()", x.chosen(), 0b1000010);
-        CHECKS.due("6 worth more: total()", x.total(), 13);
-    }
-
-    private static void severalTiesAtOnce() {
-        // Four sets of the same worth; {0, 2} has the least number on which it differs from each other one.
-        SlotMarket x = new SlotMarket(7, 0);
-        x.setRoom(2, 1);
-        x.setRoom(9, 1);
-        x.bring(2, 2, 5);
-        x.bring(2, 2, 5);
-        x.bring(9, 9, 5);
-        x.bring(9, 9, 5);
-        CHECKS.due("two ties: chosen()", x.chosen(), 0b0101);
-        x.revalue(3, 6);
-        CHECKS.due("two ties, 3 worth more: chosen()", x.chosen(), 0b1001);
-    }
-
-    private static void choiceFollowsFromThePresentAlone() {
-        SlotMarket x = new SlotMarket(2, 1);
-        x.bring(4, 4, 5);
-        x.bring(4, 4, 8);
-        CHECKS.due("present: chosen()", x.chosen(), 0b10);
-        x.revalue(1, 5);
-        CHECKS.due("present, equal: chosen()", x.chosen(), 0b01);
-        x.take(0);
-        x.bring(4, 4, 5);
-        CHECKS.due("present, 0 brought last: chosen()", x.chosen(), 0b01);
-        x.setRoom(4, 2);
-        CHECKS.due("present, more room: chosen()", x.chosen(), 0b11);
-        x.setRoom(4, 1);
-        CHECKS.due("present, less room: chosen()", x.chosen(), 0b01);
-    }
-
-    private static void noRoomChoosesNothing() {
-        SlotMarket x = new SlotMarket(7, 0);
-        x.bring(0, 11, 20);
-        x.bring(3, 3, 1);
-        CHECKS.due("no room: chosen()", x.chosen(), 0);
-        CHECKS.due("no room: total()", x.total(), 0);
-        CHECKS.due("no room: fits(0)", x.fits(0), true);
-        CHECKS.due("no room: fits(1)", x.fits(1), false);
-    }
-
-    private static void roomForThreeTakesThree() {
-        SlotMarket x = new SlotMarket(7, 3);
-        for (int i = 0; i < 7; i++) {
-            x.bring(11, 11, 20);
+        CHECKS.due("seven jobs: fits(127)", all.fits(127), true);
+        for (int set : far) {
+            CHECKS.due("seven jobs: fits(" + set + ")", all.fits(set), false);
         }
-        CHECKS.due("room 3: chosen()", x.chosen(), 0b111);
-        CHECKS.due("room 3: total()", x.total(), 60);
-        x.setRoom(0, 0);
-        CHECKS.due("room 3, elsewhere none: chosen()", x.chosen(), 0b111);
-        SlotMarket wide = new SlotMarket(7, 3);
-        for (int i = 0; i < 7; i++) {
-            wide.bring(0, 11, 20);
-        }
-        CHECKS.due("all fit: chosen()", wide.chosen(), 0b1111111);
-        CHECKS.due("all fit: total()", wide.total(), 140);
-    }
-
-    private static void fitsAsksForWindowsAndRooms() {
-        // The wide job must leave the slots of the narrow ones, on either side.
-        SlotMarket x = new SlotMarket(7, 1);
-        x.bring(3, 5, 1);
-        x.bring(3, 3, 1);
-        x.bring(5, 5, 1);
-        x.bring(4, 4, 1);
-        CHECKS.due("fits(0111)", x.fits(0b0111), true);
-        CHECKS.due("fits(1011)", x.fits(0b1011), true);
-        CHECKS.due("fits(1110)", x.fits(0b1110), true);
-        CHECKS.due("fits(1111)", x.fits(0b1111), false);
-        x.setRoom(4, 2);
-        CHECKS.due("more room: fits(1111)", x.fits(0b1111), true);
-        x.setRoom(3, 0);
-        CHECKS.due("3 closed: fits(0010)", x.fits(0b0010), false);
-        CHECKS.due("3 closed: fits(1101)", x.fits(0b1101), true);
-    }
-
-    private static void fitsRefusesNumbersNoJobHolds() {
-        SlotMarket x = new SlotMarket(7, 3);
-        x.bring(0, 11, 1);
-        x.bring(0, 11, 1);
-        x.bring(0, 11, 1);
-        x.take(1);
-        CHECKS.due("fits(0)", x.fits(0), true);
-        CHECKS.due("fits(101)", x.fits(0b101), true);
-        CHECKS.due("fits(10)", x.fits(0b10), false);
-        CHECKS.due("fits(111)", x.fits(0b111), false);
-        for (int bit = 3; bit < 32; bit++) {
-            CHECKS.due("fits(1 << " + bit + ")", x.fits(1 << bit), false);
-            CHECKS.due("fits(1 << " + bit + " | 1)", x.fits(1 << bit | 1), false);
-        }
-        CHECKS.due("fits(-1)", x.fits(-1), false);
     }
 }
