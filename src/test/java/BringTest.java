@@ -94,12 +94,32 @@ public final class BringTest {
 
     private static void objectsAreSeparate() {
         CHECKS.says("Promise 1", "A new object");
-        SlotMarket x = Sample.CROWDED.make();
-        SlotMarket y = Sample.ROOMLESS.make();
-        y.setRoom(4, 3);
-        y.revalue(0, 17);
-        Reading.dueSame(CHECKS, "another object was made and changed", x, Sample.CROWDED.make());
-        Reading.dueSame(CHECKS, "after a full one", new SlotMarket(7, 3), Sample.EMPTY.make());
+        SlotMarket x = new SlotMarket(7, 1);
+        SlotMarket y = new SlotMarket(1, 3);
+        x.bring(3, 5, 5);
+        y.bring(8, 9, 17);
+        y.setRoom(3, 0);
+        y.setRoom(8, 2);
+        dueOneJob("the first object", x, 5, 3, 5);
+        dueOneJob("the second object", y, 17, 8, 9);
+        CHECKS.due("the first object: room(8)", x.room(8), 1);
+        CHECKS.due("the first object has capacity left: bring", x.bring(0, 0, 1), 1);
+        CHECKS.due("the second object has not: bring", y.bring(0, 0, 1), FULL);
+        CHECKS.due("a third object: jobs()", new SlotMarket(7, 3).jobs(), 0);
+        CHECKS.due("the first object still: jobs()", x.jobs(), 0b11);
+        CHECKS.due("the second object still: jobs()", y.jobs(), 0b1);
+    }
+
+    private static void dueOneJob(String run, SlotMarket x, int worth, int first, int last) {
+        CHECKS.due(run + ": jobs()", x.jobs(), 1);
+        CHECKS.due(run + ": worth(0)", x.worth(0), worth);
+        CHECKS.due(run + ": slotOf(0)", x.slotOf(0), first);
+        for (int s = first; s < last; s++) {
+            x.setRoom(s, 0);
+        }
+        CHECKS.due(run + ", the last slot alone has room: slotOf(0)", x.slotOf(0), last);
+        x.setRoom(last, 0);
+        CHECKS.due(run + ", no room: slotOf(0)", x.slotOf(0), NONE);
     }
 
     private static void firstAndLastAtTheirEdges() {

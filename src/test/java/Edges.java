@@ -1,3 +1,5 @@
+import java.util.stream.IntStream;
+
 /**
  * Wrong inputs: the nearest on either side, the least and the greatest int, and numbers that turn into
  * good ones where a shift, a remainder, a narrower type or a change of sign wraps them around.
@@ -24,5 +26,13 @@ final class Edges {
     };
 
     private Edges() {
+    }
+
+    static int[] everyNumber() {
+        return IntStream.concat(IntStream.range(0, 7), IntStream.of(NO_NUMBERS)).toArray();
+    }
+
+    static int[] everySlot() {
+        return IntStream.concat(IntStream.range(0, 12), IntStream.of(NO_SLOTS)).toArray();
     }
 }

@@ -27,6 +27,11 @@ final class Reading {
         dueSame(checks, what, called, sample.make());
     }
 
+    /** Holds that a question leaves the market as one that was not asked. */
+    static void dueUnchanged(Checks checks, Sample sample, String call, ToIntFunction<SlotMarket> made) {
+        dueUnchanged(checks, sample, call, made, made.applyAsInt(sample.make()));
+    }
+
     static void dueSame(Checks checks, String what, SlotMarket x, SlotMarket other) {
         Map<String, Integer> due = new Reading(other).answers;
         Map<String, Integer> got = new Reading(x).answers;

@@ -1,14 +1,14 @@
+import java.util.stream.IntStream;
+
 /** Markets in unlike states, made anew whenever one is asked for. */
 enum Sample {
-    EMPTY(0, 7), CROWDED(0b1111111, 7), GAPPY(0b0010101, 5), ROOMLESS(0b0000001, 1);
+    EMPTY(0), CROWDED(0b1111111), GAPPY(0b0010101), ROOMLESS(0b0000001);
 
     /** Bit i is set when a job holds i. */
     final int held;
-    final int capacity;
 
-    Sample(int held, int capacity) {
+    Sample(int held) {
         this.held = held;
-        this.capacity = capacity;
     }
 
     boolean holds(int id) {
@@ -17,16 +17,14 @@ enum Sample {
 
     /** The numbers at and beyond every edge that no job holds here. */
     int[] absentNumbers() {
-        return java.util.stream.IntStream.concat(
-            java.util.stream.IntStream.range(0, 7).filter(id -> !holds(id)),
-            java.util.stream.IntStream.of(Edges.NO_NUMBERS)).toArray();
+        return IntStream.of(Edges.everyNumber()).filter(id -> !holds(id)).toArray();
     }
 
     SlotMarket make() {
         return switch (this) {
             case EMPTY -> new SlotMarket(7, 3);
             case CROWDED -> crowded();
-            case GAPPY -> gappy();
+            case GAPPY -> gappy(new SlotMarket(5, 2));
             case ROOMLESS -> roomless();
         };
     }
@@ -48,9 +46,8 @@ enum Sample {
         return x;
     }
 
-    /** Numbers 1 and 3 are free again; 4 is not chosen, for 0 has its worth and a lower number. */
-    private static SlotMarket gappy() {
-        SlotMarket x = new SlotMarket(5, 2);
+    /** In ten calls: 1 and 3 are free again; 4 is not chosen, for 0 has its worth and a lower number. */
+    static SlotMarket gappy(SlotMarket x) {
         x.setRoom(0, 3);
         x.setRoom(7, 0);
         x.setRoom(8, 1);

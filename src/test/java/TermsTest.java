@@ -67,7 +67,7 @@ public final class TermsTest {
         CHECKS.due("as the 512th call, " + call, made.applyAsInt(x), want);
     }
 
-    /** Leaves the state of Sample.GAPPY; each of the 50 rounds of 10 calls brings and takes jobs. */
+    /** 50 rounds of 10 calls that leave nothing behind, the 10 that make Sample.GAPPY, and one question. */
     private static void use511Calls(SlotMarket x) {
         for (int round = 0; round < 50; round++) {
             int id = x.bring(round % 12, 11, 1 + round % 20);
@@ -81,16 +81,7 @@ public final class TermsTest {
             x.bring(12, 0, 0);
             x.take(id);
         }
-        x.setRoom(0, 3);
-        x.setRoom(7, 0);
-        x.setRoom(8, 1);
-        x.bring(8, 8, 4);
-        x.bring(0, 0, 7);
-        x.bring(7, 9, 4);
-        x.bring(8, 8, 20);
-        x.bring(8, 8, 4);
-        x.take(1);
-        x.take(3);
+        Sample.gappy(x);
         x.total();
     }
 
@@ -374,6 +365,7 @@ public final class TermsTest {
         x.bring(8, 8, 1);
         x.take(0);
         x.bring(8, 8, 4);
+        x.revalue(2, 20);
         x.revalue(2, 4);
         x.revalue(4, 4);
         x.take(3);
@@ -395,41 +387,19 @@ public final class TermsTest {
     private static void askingDoesNotMatter() {
         CHECKS.says("Terms", "from the present jobs and rooms alone.");
         for (Sample sample : Sample.values()) {
-            Reading.dueUnchanged(CHECKS, sample, "room(0) .. room(11)", TermsTest::askRooms, 0);
-            Reading.dueUnchanged(CHECKS, sample, "worth and slotOf of every number", TermsTest::askJobs, 0);
-            Reading.dueUnchanged(CHECKS, sample, "jobs()", SlotMarket::jobs, sample.held);
-            Reading.dueUnchanged(CHECKS, sample, "chosen() and total()", TermsTest::askChosen, 0);
-            Reading.dueUnchanged(CHECKS, sample, "fits(held)", TermsTest::askSets, 0);
+            Reading.dueUnchanged(CHECKS, sample, "jobs()", SlotMarket::jobs);
+            Reading.dueUnchanged(CHECKS, sample, "chosen()", SlotMarket::chosen);
+            Reading.dueUnchanged(CHECKS, sample, "total()", SlotMarket::total);
+            for (int s : Edges.everySlot()) {
+                Reading.dueUnchanged(CHECKS, sample, "room(" + s + ")", x -> x.room(s));
+            }
+            for (int id : Edges.everyNumber()) {
+                Reading.dueUnchanged(CHECKS, sample, "worth(" + id + ")", x -> x.worth(id));
+                Reading.dueUnchanged(CHECKS, sample, "slotOf(" + id + ")", x -> x.slotOf(id));
+                Reading.dueUnchanged(CHECKS, sample, "fits(" + id + ")", x -> x.fits(id) ? 1 : 0);
+            }
+            Reading.dueUnchanged(CHECKS, sample, "fits(held)", x -> x.fits(sample.held) ? 1 : 0);
         }
-    }
-
-    private static int askRooms(SlotMarket x) {
-        for (int s = -1; s <= 12; s++) {
-            x.room(s);
-        }
-        return 0;
-    }
-
-    private static int askJobs(SlotMarket x) {
-        for (int id = -1; id <= 7; id++) {
-            x.worth(id);
-            x.slotOf(id);
-        }
-        return 0;
-    }
-
-    private static int askChosen(SlotMarket x) {
-        x.chosen();
-        x.total();
-        return 0;
-    }
-
-    private static int askSets(SlotMarket x) {
-        x.fits(-1);
-        x.fits(0);
-        x.fits(1);
-        x.fits(127);
-        return 0;
     }
 
     private static void bringMany(SlotMarket x, int jobs, int first, int last, int worth) {

@@ -112,6 +112,11 @@ public final class TimetableTest {
         y.bring(1, 1, 1);
         y.bring(0, 3, 1);
         dueSlots("1 must leave slot 1 to 2", y, 0, 2, 1, 3);
+        SlotMarket z = new SlotMarket(7, 1);
+        z.bring(1, 2, 1);
+        z.bring(0, 2, 1);
+        z.bring(0, 1, 1);
+        dueSlots("1 would have slot 0, had 0 not come before", z, 1, 2, 0);
     }
 
     private static void jobThatIsNotChosenHasNone() {

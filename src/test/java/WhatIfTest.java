@@ -128,13 +128,8 @@ public final class WhatIfTest {
     private static void priceChangesNothing() {
         CHECKS.says("Promise 12", "Nothing changes.");
         for (Sample sample : Sample.values()) {
-            for (int id = 0; id < 7; id++) {
-                int number = id;
-                int due = sample.make().price(id);
-                Reading.dueUnchanged(CHECKS, sample, "price(" + id + ")", x -> x.price(number), due);
-            }
-            for (int id : Edges.NO_NUMBERS) {
-                Reading.dueUnchanged(CHECKS, sample, "price(" + id + ")", x -> x.price(id), NONE);
+            for (int id : Edges.everyNumber()) {
+                Reading.dueUnchanged(CHECKS, sample, "price(" + id + ")", x -> x.price(id));
             }
         }
         SlotMarket x = new SlotMarket(7, 1);
@@ -226,13 +221,8 @@ public final class WhatIfTest {
     private static void lossChangesNothing() {
         CHECKS.says("Promise 13", "Nothing changes.");
         for (Sample sample : Sample.values()) {
-            for (int s = 0; s < 12; s++) {
-                int slot = s;
-                int due = sample.make().loss(s);
-                Reading.dueUnchanged(CHECKS, sample, "loss(" + s + ")", x -> x.loss(slot), due);
-            }
-            for (int s : Edges.NO_SLOTS) {
-                Reading.dueUnchanged(CHECKS, sample, "loss(" + s + ")", x -> x.loss(s), NONE);
+            for (int s : Edges.everySlot()) {
+                Reading.dueUnchanged(CHECKS, sample, "loss(" + s + ")", x -> x.loss(s));
             }
         }
         SlotMarket x = sevenFor(6);
@@ -315,13 +305,8 @@ public final class WhatIfTest {
     private static void gainChangesNothing() {
         CHECKS.says("Promise 14", "Nothing changes.");
         for (Sample sample : Sample.values()) {
-            for (int s = 0; s < 12; s++) {
-                int slot = s;
-                int due = sample.make().gain(s);
-                Reading.dueUnchanged(CHECKS, sample, "gain(" + s + ")", x -> x.gain(slot), due);
-            }
-            for (int s : Edges.NO_SLOTS) {
-                Reading.dueUnchanged(CHECKS, sample, "gain(" + s + ")", x -> x.gain(s), NONE);
+            for (int s : Edges.everySlot()) {
+                Reading.dueUnchanged(CHECKS, sample, "gain(" + s + ")", x -> x.gain(s));
             }
         }
         SlotMarket x = sevenFor(6);
