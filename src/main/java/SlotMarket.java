@@ -232,7 +232,8 @@ public final class SlotMarket {
     private boolean canPlace(int set) {
         int waiting = set;
         for (int s = 0; s < SLOTS; s++) {
-            for (int place = 0; place < trialRoom[s]; place++) {
+            int places = trialRoom[s];
+            for (int place = 0; place < places; place++) {
                 int next = mostUrgent(waiting, s);
                 waiting &= ~next;
             }
@@ -257,8 +258,9 @@ public final class SlotMarket {
 
     // Gives the job the least slot that leaves places for all the jobs of the rest.
     private int occupyFirstSlot(int id, int rest) {
-        for (int s = firstOf[id]; s <= lastOf[id]; s++) {
-            if (trialRoom[s] > 0) {
+        for (int s = 0; s < SLOTS; s++) {
+            boolean canUse = firstOf[id] <= s && s <= lastOf[id];
+            if (canUse && trialRoom[s] > 0) {
                 trialRoom[s]--;
                 if (canPlace(rest)) {
                     return s;
